@@ -757,10 +757,11 @@ public final class PromisesTest {
 
     /** Each number of REACH is made by SHEARS and TURNS, and its facts are asked of what was made. */
     private static void reachedAsMade(String right, String up) {
-        SquareGrounds x = with(right, up);
-        int many = x.reach(0);
+        int many = with(right, up).reach(0);
         int known = 1;
         for (int i = 0; i < Math.min(many, 12); i++) {
+            // A new one for each: one for all would be called more than 512 times.
+            SquareGrounds x = with(right, up);
             come(x, i);
             due("SELVES of " + i, x.reached(0, i, 2), x.told(1, 5));
             due("CYLINDERS of " + i, x.reached(0, i, 3), x.cylinders(1, 1, 0));

@@ -1,3 +1,7 @@
+import java.util.ArrayList;
+import java.util.HashMap;
+import java.util.List;
+import java.util.Map;
 import java.util.Random;
 
 /**
@@ -12,6 +16,7 @@ public final class TheoryTest {
     }
 
     public static void main(String[] args) {
+        allGrounds();
         evenGrounds();
         singleGroundsOfSpanTwo();
         Random random = new Random(20261116);
@@ -72,6 +77,63 @@ public final class TheoryTest {
             up[other] = 0;
         }
         return lay(x, g, right, up);
+    }
+
+    private static void permutations(List<int[]> all, int[] row, int from) {
+        if (from == row.length) {
+            all.add(row.clone());
+        }
+        for (int i = from; i < row.length; i++) {
+            exchange(row, from, i);
+            permutations(all, row, from + 1);
+            exchange(row, from, i);
+        }
+    }
+
+    private static void exchange(int[] row, int i, int j) {
+        int was = row[i];
+        row[i] = row[j];
+        row[j] = was;
+    }
+
+    /**
+     * As many NAMES as the free group of two letters has subgroups of index n, up to turning them about; each NAME comes
+     * of n! by SELVES pairs of rows, and is in one REACH alone.
+     */
+    private static void allGrounds() {
+        int[] names = {0, 1, 3, 7, 26, 97};
+        int[] reaches = {0, 1, 1, 2, 5, 8};
+        for (int n = 1; n <= 5; n++) {
+            int[] row = new int[n];
+            for (int s = 0; s < n; s++) {
+                row[s] = s;
+            }
+            List<int[]> rows = new ArrayList<>();
+            permutations(rows, row, 0);
+            Map<String, Integer> met = new HashMap<>();
+            double parts = 0;
+            int pairs = 0;
+            for (int[] right : rows) {
+                for (int[] up : rows) {
+                    SquareGrounds x = new SquareGrounds();
+                    if (lay(x, 0, right, up) > 0 && met.merge(nameOf(x), 1, Integer::sum) == 1) {
+                        parts += 1.0 / x.reach(0);
+                        pairs += rows.size() / x.told(0, 5);
+                    }
+                }
+            }
+            due("NAMES of " + n, met.size(), names[n]);
+            due("REACHES of " + n, Math.round(parts * 1000), 1000L * reaches[n]);
+            due("pairs of rows of " + n, met.values().stream().mapToInt(Integer::intValue).sum(), pairs);
+        }
+    }
+
+    private static String nameOf(SquareGrounds x) {
+        StringBuilder name = new StringBuilder();
+        for (int i = 0; i < 2 * x.told(0, 0); i++) {
+            name.append(x.name(0, i));
+        }
+        return name.toString();
     }
 
     /** A row of n: its REACH has as many as the projective line over the numbers below n, all SHARES' mean is 1. */
