@@ -1281,7 +1281,7 @@ public final class EdgesTest {
             nameIs(new String[] {"102", "021"}, "021102");
 
             edge(13, "THE NAME: the least (place by place): rows that differ in UP alone");
-            // Row s has the exchange of 0 and 1 at places s and s + 1, counted round: from 1 it stands at 0 and 3.
+            // From 0 1230 1023, from 1 1302 and more, from 2 1230 0132, from 3 1230 0213.
             nameIs(new String[] {"1230", "1023"}, "12300132");
 
             edge(13, "NUMBERED: RIGHT of it, then UP of it gets the next number");
