@@ -745,7 +745,7 @@ public final class SquareGrounds {
         private int bendFrom(Ground ground, int square) {
             int k = 0;
             int at = ground.aroundCorner(square);
-            while (k < ground.n && at != square) {
+            while (k < ground.n - 1 && at != square) {
                 at = ground.aroundCorner(at);
                 k++;
             }

@@ -11,7 +11,7 @@ import java.util.Arrays;
 public final class EdgesTest {
     private static final int BAD = -1, FINDING = -3, STATE = -4, SPENT = -6, NONE = -9;
     private static final int NOTHING = 1, BEYOND = 2, UNLIKE = 3, NOUGHT = 4, SIZE = 5;
-    private static final int TERMS = 0;
+    private static final int TERMS = 0, PROMISES = 34;
     private static final int LOWEST = Integer.MIN_VALUE, HIGHEST = Integer.MAX_VALUE;
     // What later calls answer is free.
     private static final int MOST_CALLS = 512;
@@ -54,6 +54,7 @@ public final class EdgesTest {
     private static String words;
     private static long[] known;
     private static int edges = 0;
+    private static final boolean[] tested = new boolean[PROMISES + 1];
     private static int wrong = 0;
 
     private EdgesTest() {
@@ -82,7 +83,17 @@ public final class EdgesTest {
         Reaches.all();
         Told.all();
         Terms.all();
+        demandAllPromises();
         ended = true;
+    }
+
+    private static void demandAllPromises() {
+        for (promise = TERMS; promise <= PROMISES; promise++) {
+            words = "at least one test";
+            if (!tested[promise]) {
+                fault("there is none");
+            }
+        }
     }
 
     // ---- what the tests are written with
@@ -90,6 +101,7 @@ public final class EdgesTest {
     private static void edge(int ofPromise, String itsWords) {
         promise = ofPromise;
         words = itsWords;
+        tested[ofPromise] = true;
         edges++;
         renew();
     }

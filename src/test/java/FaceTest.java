@@ -27,6 +27,8 @@ public final class FaceTest {
     private static final String[] WORDS = {"throw", "throws", "try", "catch", "synchronized", "assert", "import",
         "package", "equals", "hashCode", "System.out", "Exact", "Thread", "Random", "double", "float", "volatile"};
 
+    private static final int MOST_LINES = 60;
+
     private static int wrong = 0;
 
     private FaceTest() {
@@ -40,6 +42,7 @@ public final class FaceTest {
         constructors();
         classesInside();
         words();
+        lengths();
         System.out.println(wrong == 0 ? "the face is as told" : wrong + " faults");
         if (wrong != 0) {
             System.exit(1);
@@ -133,5 +136,17 @@ public final class FaceTest {
             boolean inConstructor = made.group().matches("\n {12}(sheets\\[s\\]|grounds\\[g\\]) = new \\w+\\(\\);");
             demand("rows are made with the object alone:" + made.group(), ofField || inConstructor);
         }
+    }
+
+    /** From a line that opens a method to the first that closes at the same depth. */
+    private static void lengths() throws IOException {
+        String text = Files.readString(Path.of("src/main/java/SquareGrounds.java"));
+        Matcher method = Pattern.compile("\n( +)[\\w\\[\\] ]+\\([^\n;]*\\) \\{\n(?s:.*?)\n\\1\\}").matcher(text);
+        int methods = 0;
+        while (method.find()) {
+            methods++;
+            demand("short: " + method.group().trim().split("\n")[0], method.group().split("\n").length <= MOST_LINES);
+        }
+        demand("methods are found: " + methods, methods > METHODS.length);
     }
 }
